@@ -265,6 +265,8 @@ public final class PromiseTest {
         fault("take 1 t ", 8);
         fault("take 1 t<", 9);
         fault("take 1 t<x", 9);
+        fault("take 1 t?1", 8);
+        fault("take 1 t;1", 8);
         fault("take 1 t<1 ", 10);
         fault("take 1 t<100", 11);
         fault("take 1 t<1)", 10);
@@ -299,6 +301,18 @@ public final class PromiseTest {
         }
         x.feed(0);
         due("a zero byte", x.kiln(), -13);
+        x = with(0, 0);
+        x.oven(0, 100);
+        kiln(x, "take 7 t=0;more 8 t=0;fee 9 l=0;cold 10;take 11 t=0;");
+        due("of a fault nothing stays", kiln(x, "cold 3"), 0);
+        due("of a fault nothing stays, PART", x.of(0, 30), 50);
+        due("of a fault nothing stays, MORE", x.of(0, 40), 0);
+        due("of a fault nothing stays, FEE", x.of(0, 2), 1);
+        kiln(x, "cold 4;take 1 t=9|t=9&");
+        due("of a fault nothing stays", kiln(x, "fee 3 l=0"), 1);
+        due("of a fault nothing stays, FEE", x.of(0, 2), 4);
+        due("of a fault nothing stays, cold", x.told(5), 50);
+        due("of a fault nothing stays, PART", x.of(0, 30), 50);
     }
 
     private static void fault(String text, int place) {
@@ -380,6 +394,8 @@ public final class PromiseTest {
         clause("take 9 l<2&k=0&v=4&t<3", 1, 32, 9);
         clause("take 9 l<2&k=0&v=4&t<3", 1, 33, 0);
         clause("cold 9;cold 8;take 1 t=0", 0, 30, 1);
+        clause("fee 1 l=0;fee 2 l=0;fee 3 l=0;fee 4 l=0;fee 5 l=0;fee 6 l=0;fee 7 l=0;fee 8 l=0;fee 9 l=0;fee 1 l=0",
+            0, 2, 47);
         BakedBefore x = new BakedBefore();
         kiln(x, "cold 9;cold 8;take 1 t=0");
         due("the last cold", x.told(5), 8);
@@ -556,6 +572,7 @@ public final class PromiseTest {
         due("colds(2, -1)", x.colds(2, -1), 0);
         due("colds(0, -1)", x.colds(0, -1), 0);
         due("colds(0, 0)", x.colds(0, 0), ABSENT);
+        due("colds(3, 5)", x.colds(3, 5), ABSENT);
         due("colds(1, 6)", x.colds(1, 6), NONE);
         due("colds(4, -2)", x.colds(4, -2), NONE);
         due("colds(4, 0)", x.colds(4, 0), BAD);
@@ -681,6 +698,12 @@ public final class PromiseTest {
         kiln(x, "fee 5 h=0;fee 9 h=1");
         x.oven(3, 20);
         due("FEE by the HOUR as now", x.has(0), 6);
+        x = with(0, 0, 0);
+        x.oven(0, 9999);
+        x.would(0, 1, 0);
+        x.oven(0, 40);
+        due("from now, not from what was asked", x.has(0), 1);
+        due("from now, not from what was asked", x.has(1), -1);
     }
 
     private static void swaps() {
@@ -693,6 +716,16 @@ public final class PromiseTest {
         due("swaps(0), one less", x.swaps(0), 1);
         gives(x, 0, 0);
         due("swaps(0), none less", x.swaps(0), 0);
+        // HOLY TAKES what it BEARS in either order, the other of 100 or of 91
+        BakedBefore y = with(0, 0, 3);
+        y.oven(0, 100);
+        due("swaps(0), the first less", y.swaps(0), 1);
+        y = with(0, 0, 1, 0, 0);
+        y.set(0, 0, 0, 60);
+        y.set(2, 0, 0, 30);
+        due("swaps(0), the second less", y.swaps(0), 1);
+        due("swaps(1), by the 60 ahead", y.swaps(1), 0);
+        due("swaps(2), by nothing ahead", y.swaps(2), 1);
         due("swaps(1)", x.swaps(1), NONE);
         due("swaps(2)", x.swaps(2), NONE);
         due("swaps(-1)", x.swaps(-1), NONE);
@@ -795,6 +828,10 @@ public final class PromiseTest {
         fraction(x, 0, 0, 1);
         gives(x, 1, 40);
         fraction(x, 0, 1, 4);
+        gives(x, 0, 40);
+        fraction(x, 1, 1, 4);
+        fraction(x, 4, 1, 2);
+        gives(x, 0, 0);
         gives(x, 2, 40);
         fraction(x, 0, 1, 2);
         fraction(x, 1, 1, 4);
@@ -986,6 +1023,19 @@ public final class PromiseTest {
         due("a new LOAF's KIND", x.of(2, 0), 4);
         due("a new KILN", kiln(x, "cold 30"), 3);
         due("it holds", x.told(5), 30);
+        x = with(8, 1, 2, 3, 4, 5, 6);
+        for (int row = 0; row < 12; row++) {
+            x.book(-2, row == 11);
+        }
+        due("image() of six", x.image(), 6);
+        x.book(-1, false);
+        due("undo() to six", x.undo(), 6);
+        due("all rows", x.count(2), 12);
+        due("the last row", x.looked(), 11);
+        for (int i = 0; i < 6; i++) {
+            due("its KIND", x.of(i, 0), i + 1);
+            due("its v", x.of(i, 1), 8);
+        }
         x = new BakedBefore();
         x.image();
         kiln(x, "cold 9");
