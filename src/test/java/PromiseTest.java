@@ -720,6 +720,9 @@ public final class PromiseTest {
         BakedBefore y = with(0, 0, 3);
         y.oven(0, 100);
         due("swaps(0), the first less", y.swaps(0), 1);
+        y = with(0, 0, 0, 3);
+        gives(y, 0, 60);
+        due("swaps(1), of the 60 ahead", y.swaps(1), 1);
         y = with(0, 0, 1, 0, 0);
         y.set(0, 0, 0, 60);
         y.set(2, 0, 0, 30);
@@ -973,6 +976,7 @@ public final class PromiseTest {
         due("undo() without", new BakedBefore().undo(), STATE);
         x.loaf(0, 1);
         x.loaf(6, 2);
+        x.set(0, 0, 0, 22);
         x.set(0, 1, 0, 33);
         x.set(1, 2, 1, 44);
         x.oven(3, 77);
@@ -986,12 +990,13 @@ public final class PromiseTest {
         due("image()", x.image(), 2);
         promise = 27;
         for (int round = 0; round < 2; round++) {
+            x.set(0, 0, 0, 1);
             x.set(0, 1, 0, 1);
             x.set(1, 2, 1, 1);
             x.oven(3, 1);
             x.bake(0);
             x.book(-1, false);
-            x.book(1, false);
+            x.book(0, false);
             x.loaf(3, 3);
             x.set(2, 0, 0, 5);
             x.set(2, 0, 1, 5);
@@ -1003,7 +1008,8 @@ public final class PromiseTest {
             due("count(0)", x.count(0), 2);
             due("of(0, 1)", x.of(0, 1), 1);
             due("of(1, 0)", x.of(1, 0), 6);
-            due("GIVES", x.of(0, 11), 33);
+            due("GIVES of 0", x.of(0, 10), 22);
+            due("GIVES of 1", x.of(0, 11), 33);
             due("BEARS", x.of(1, 22), 44);
             due("THE OVEN", x.told(3), 38);
             due("HOUR", x.told(4), 1);
