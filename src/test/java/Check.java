@@ -22,6 +22,10 @@ final class Check {
         return wrong;
     }
 
+    int looks() {
+        return right + wrong;
+    }
+
     void close() {
         System.out.println(right + " as due, " + wrong + " not");
         if (wrong != 0 || right == 0) {

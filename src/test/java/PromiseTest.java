@@ -1,45 +1,5 @@
 /** For each promise ordinary inputs, the edges that the document names, and wrong inputs. */
-public final class PromiseTest {
-    private static final int NONE = -1, BAD = -2, STATE = -3, FULL = -4, ABSENT = -5;
-    private static final int NOTHING = -11, CAST = -12, PLACE = -13, SIZE = -14;
-    private static final long NO = Long.MIN_VALUE;
-    private static final int MAX = Integer.MAX_VALUE, MIN = Integer.MIN_VALUE;
-
-    private static final Check check = new Check();
-    private static int promise;
-
-    private static void due(String call, long got, long want) {
-        check.same("promise " + promise + ": " + call, got, want);
-    }
-
-    /** An object with LOAVES of these KINDS, each with the same v. */
-    private static BakedBefore with(int v, int... kinds) {
-        BakedBefore x = new BakedBefore();
-        for (int kind : kinds) {
-            x.loaf(kind, v);
-        }
-        return x;
-    }
-
-    private static void feed(BakedBefore x, String text) {
-        for (int i = 0; i < text.length(); i++) {
-            x.feed(text.charAt(i));
-        }
-    }
-
-    private static int kiln(BakedBefore x, String text) {
-        feed(x, text);
-        return x.kiln();
-    }
-
-    private static void gives(BakedBefore x, int loaf, int n) {
-        x.set(loaf, 0, 0, n);
-    }
-
-    private static void bears(BakedBefore x, int loaf, int n) {
-        x.set(loaf, 0, 1, n);
-    }
-
+public final class PromiseTest extends Bench {
     public static void main(String[] args) {
         newObject();
         loaf();
@@ -82,7 +42,7 @@ public final class PromiseTest {
     }
 
     private static void newObject() {
-        promise = 1;
+        title = "promise 1";
         BakedBefore x = new BakedBefore();
         for (int what = 0; what < 5; what++) {
             due("count(" + what + ")", x.count(what), 0);
@@ -106,7 +66,7 @@ public final class PromiseTest {
     }
 
     private static void loaf() {
-        promise = 2;
+        title = "promise 2";
         BakedBefore x = new BakedBefore();
         due("loaf(-1, 0)", x.loaf(-1, 0), NONE);
         due("loaf(7, 10)", x.loaf(7, 10), NONE);
@@ -129,7 +89,7 @@ public final class PromiseTest {
     }
 
     private static void set() {
-        promise = 3;
+        title = "promise 3";
         BakedBefore x = with(0, 0, 3);
         due("set(0, 0, 0, 99)", x.set(0, 0, 0, 99), 0);
         due("set(0, 0, 1, 0)", x.set(0, 0, 1, 0), 9);
@@ -155,7 +115,7 @@ public final class PromiseTest {
     }
 
     private static void of() {
-        promise = 4;
+        title = "promise 4";
         // of 57 and of 5, with v 7, BEARS 20, GIVES 11, and a PART of 50, then of 198
         int[] ofMuch = {28, 57, 56, 20, 50, 56, 10};
         int[] ofLittle = {2, 5, 4, 2, 0, 4, 1};
@@ -203,7 +163,7 @@ public final class PromiseTest {
     }
 
     private static void oven() {
-        promise = 5;
+        title = "promise 5";
         BakedBefore x = new BakedBefore();
         due("oven(0, 9999)", x.oven(0, 9999), 0);
         due("oven(0, 3)", x.oven(0, 3), 9999);
@@ -218,7 +178,7 @@ public final class PromiseTest {
     }
 
     private static void feedTheText() {
-        promise = 6;
+        title = "promise 6";
         BakedBefore x = new BakedBefore();
         due("feed(-1)", x.feed(-1), BAD);
         due("feed(128)", x.feed(128), BAD);
@@ -235,7 +195,7 @@ public final class PromiseTest {
     }
 
     private static void faults() {
-        promise = 7;
+        title = "promise 7";
         fault("", 0);
         fault("x", 0);
         fault(" take", 0);
@@ -325,7 +285,7 @@ public final class PromiseTest {
     }
 
     private static void kilnsThatAre() {
-        promise = 7;
+        title = "promise 7";
         String[] texts = {
             "cold 0", "cold 00", "take 0 l<0", "fee 05 h>00", "more 99 o=99|v=9&k=6",
             "take 1 ((((t=1))))", "take 1 !!!!t=1", "take 1 (!(!t=1))",
@@ -360,7 +320,7 @@ public final class PromiseTest {
     }
 
     private static void clauses() {
-        promise = 7;
+        title = "promise 7";
         clause("cold 3", 0, 30, 50);
         clause("take 7 t=1", 0, 30, 0);
         clause("take 7 t=1", 0, 31, 7);
@@ -404,7 +364,7 @@ public final class PromiseTest {
     }
 
     private static void tests() {
-        promise = 7;
+        title = "promise 7";
         for (int kind = 0; kind < 7; kind++) {
             BakedBefore x = with(kind + 2, 0, kind);
             kiln(x, "fee 1 l=1;fee 2 k=" + kind + ";fee 4 v=" + (kind + 2) + ";fee 8 k<" + kind + ";fee 16 v>" + (kind + 2));
@@ -428,7 +388,7 @@ public final class PromiseTest {
     }
 
     private static void told() {
-        promise = 8;
+        title = "promise 8";
         BakedBefore x = new BakedBefore();
         for (int t = 0; t < 4; t++) {
             x.oven(t, 11 * t + 5);
@@ -447,7 +407,7 @@ public final class PromiseTest {
     }
 
     private static void bake() {
-        promise = 9;
+        title = "promise 9";
         BakedBefore x = with(9, 5, 0);
         due("bake(2)", x.bake(2), NONE);
         due("bake(-1)", x.bake(-1), NONE);
@@ -483,7 +443,7 @@ public final class PromiseTest {
     }
 
     private static void cold() {
-        promise = 10;
+        title = "promise 10";
         BakedBefore x = new BakedBefore();
         x.oven(0, 9999);
         x.oven(3, 1);
@@ -499,7 +459,7 @@ public final class PromiseTest {
     }
 
     private static void would() {
-        promise = 11;
+        title = "promise 11";
         BakedBefore x = with(0, 0, 1, 0);
         gives(x, 2, 40);
         x.oven(0, 18);
@@ -528,7 +488,7 @@ public final class PromiseTest {
     }
 
     private static void order() {
-        promise = 12;
+        title = "promise 12";
         BakedBefore x = with(0, 0, 0, 3);
         gives(x, 0, 40);
         due("order(3, -1)", x.order(3, -1), 0);
@@ -562,7 +522,7 @@ public final class PromiseTest {
     }
 
     private static void colds() {
-        promise = 13;
+        title = "promise 13";
         BakedBefore x = with(0, 0, 0);
         gives(x, 0, 40);
         due("colds(3, -1)", x.colds(3, -1), 2);
@@ -601,7 +561,7 @@ public final class PromiseTest {
     }
 
     private static void place() {
-        promise = 14;
+        title = "promise 14";
         BakedBefore x = with(0, 0, 0, 1);
         gives(x, 1, 40);
         x.oven(0, 10);
@@ -625,7 +585,7 @@ public final class PromiseTest {
     }
 
     private static void guilty() {
-        promise = 15;
+        title = "promise 15";
         BakedBefore x = with(0, 0, 3, 0);
         bears(x, 1, 0);
         gives(x, 0, 30);
@@ -648,7 +608,7 @@ public final class PromiseTest {
     }
 
     private static void two() {
-        promise = 16;
+        title = "promise 16";
         BakedBefore x = with(0, 0, 0);
         due("nothing spoils", x.two(0), 0);
         due("all in the second one", x.two(1), 0);
@@ -673,7 +633,7 @@ public final class PromiseTest {
     }
 
     private static void has() {
-        promise = 17;
+        title = "promise 17";
         BakedBefore x = with(0, 1, 0, 0);
         kiln(x, "fee 5 l=0;fee 2 l=1;fee 29 l=2;take 50 t<9");
         x.oven(0, 20);
@@ -707,7 +667,7 @@ public final class PromiseTest {
     }
 
     private static void swaps() {
-        promise = 18;
+        title = "promise 18";
         BakedBefore x = with(0, 0, 0);
         gives(x, 0, 40);
         x.oven(0, 10);
@@ -747,7 +707,7 @@ public final class PromiseTest {
     }
 
     private static void span() {
-        promise = 19;
+        title = "promise 19";
         BakedBefore x = with(3, 0, 3, 1, 4, 6, 2);
         spanOf(x, 0, 5, 10, 11);
         spanOf(x, 0, 0, 0, 1);
@@ -792,7 +752,7 @@ public final class PromiseTest {
     }
 
     private static void year() {
-        promise = 20;
+        title = "promise 20";
         BakedBefore x = with(0, 0, 3);
         gives(x, 0, 40);
         x.set(1, 1, 0, 7);
@@ -826,7 +786,7 @@ public final class PromiseTest {
     }
 
     private static void odds() {
-        promise = 21;
+        title = "promise 21";
         BakedBefore x = with(0, 0, 0, 0, 0, 0);
         fraction(x, 0, 0, 1);
         gives(x, 1, 40);
@@ -857,7 +817,7 @@ public final class PromiseTest {
     }
 
     private static void mean() {
-        promise = 22;
+        title = "promise 22";
         BakedBefore x = with(0, 0, 0);
         x.oven(1, 10);
         due("mean(1, 0)", x.mean(1, 0), 5);
@@ -882,7 +842,7 @@ public final class PromiseTest {
     }
 
     private static void book() {
-        promise = 23;
+        title = "promise 23";
         BakedBefore x = with(0, 0);
         due("book(1, ..)", x.book(1, true), NONE);
         due("book(-3, ..)", x.book(-3, true), NONE);
@@ -900,7 +860,7 @@ public final class PromiseTest {
     }
 
     private static void looked() {
-        promise = 24;
+        title = "promise 24";
         BakedBefore x = with(0, 0, 0);
         due("an empty one", x.looked(), ABSENT);
         gives(x, 0, 40);
@@ -925,7 +885,7 @@ public final class PromiseTest {
     }
 
     private static void judge() {
-        promise = 25;
+        title = "promise 25";
         BakedBefore x = new BakedBefore();
         for (int t = 0; t < 4; t++) {
             x.oven(t, 100 * t + 7);
@@ -966,10 +926,10 @@ public final class PromiseTest {
     }
 
     private static void imageAndUndo() {
-        promise = 26;
+        title = "promise 26";
         BakedBefore x = new BakedBefore();
         due("image() of none", x.image(), 0);
-        promise = 27;
+        title = "promise 27";
         x.loaf(0, 0);
         due("undo() to none", x.undo(), 0);
         due("no LOAVES", x.count(0), 0);
@@ -986,9 +946,9 @@ public final class PromiseTest {
         kiln(x, "cold 11");
         x.tape(0, 2, 3);
         x.item(0, 1, 5);
-        promise = 26;
+        title = "promise 26";
         due("image()", x.image(), 2);
-        promise = 27;
+        title = "promise 27";
         for (int round = 0; round < 2; round++) {
             x.set(0, 0, 0, 1);
             x.set(0, 1, 0, 1);
@@ -1051,7 +1011,7 @@ public final class PromiseTest {
     }
 
     private static void act() {
-        promise = 28;
+        title = "promise 28";
         BakedBefore x = with(7, 0, 1, 2, 3, 4, 5);
         int[][] rises = {{5, 10}, {6, 10}, {17, 30, 10}, {8, 10}, {-9, 50, 10}, {20, 30, 10}};
         int[][] bakes = {{-2, 11, 10}, {-7, 20, 11, 10}, {10, 11, 30, 10}, {1, 11, 10},
@@ -1093,7 +1053,7 @@ public final class PromiseTest {
     }
 
     private static void trace() {
-        promise = 29;
+        title = "promise 29";
         BakedBefore x = with(1, 0);
         due("ahead of any act", x.trace(0), NONE);
         x.act(0, 2, 0);
@@ -1108,7 +1068,7 @@ public final class PromiseTest {
     }
 
     private static void taken() {
-        promise = 30;
+        title = "promise 30";
         // under whom each KIND is, itself with it
         int[][] under = {{0}, {1, 0}, {2, 0}, {3, 0}, {4, 1, 0}, {5, 2, 0}, {6, 3, 0}};
         for (int kind = 0; kind < 7; kind++) {
@@ -1130,7 +1090,7 @@ public final class PromiseTest {
     }
 
     private static void count() {
-        promise = 31;
+        title = "promise 31";
         BakedBefore x = with(0, 0, 6);
         kiln(x, "cold 1");
         kiln(x, "cold 2");
@@ -1148,7 +1108,7 @@ public final class PromiseTest {
     }
 
     private static void tape() {
-        promise = 32;
+        title = "promise 32";
         BakedBefore x = new BakedBefore();
         for (int t = 0; t < 6; t++) {
             due("tape " + t, x.tape(t, t % 5, 60), 1);
@@ -1177,7 +1137,7 @@ public final class PromiseTest {
     }
 
     private static void item() {
-        promise = 33;
+        title = "promise 33";
         long v = 0x123456789ABCDEF0L;
         long[] cut = {(byte) 0xF0, (short) 0xDEF0, (int) 0x9ABCDEF0L, v, 1};
         BakedBefore x = new BakedBefore();
@@ -1201,7 +1161,7 @@ public final class PromiseTest {
     }
 
     private static void read() {
-        promise = 34;
+        title = "promise 34";
         BakedBefore x = new BakedBefore();
         x.tape(2, 3, 2);
         x.item(2, 1, Long.MAX_VALUE);
@@ -1215,7 +1175,7 @@ public final class PromiseTest {
     }
 
     private static void shift() {
-        promise = 35;
+        title = "promise 35";
         BakedBefore x = new BakedBefore();
         x.tape(0, 2, 6);
         x.tape(1, 2, 3);
