@@ -112,6 +112,51 @@ final class EdgesOfActs extends Bench {
         due("a 13th", x.book(0, true), FULL);
     }
 
+    @Says("LOAVES with all that is theirs")
+    static void p27_undo_ofEveryTaste() {
+        BakedBefore x = loaves(6);
+        for (int t = 0; t < 4; t++) {
+            x.oven(t, 10 + t);
+            x.set(5, t, 0, 20 + t);
+            x.set(5, t, 1, 30 + t);
+        }
+        x.image();
+        for (int t = 0; t < 4; t++) {
+            x.oven(t, 1);
+            x.set(5, t, 0, 1);
+            x.set(5, t, 1, 1);
+        }
+        x.undo();
+        for (int t = 0; t < 4; t++) {
+            due("THE OVEN", x.told(t), 10 + t);
+            due("GIVES", x.of(5, 10 + t), 20 + t);
+            due("BEARS", x.of(5, 20 + t), 30 + t);
+        }
+    }
+
+    @Says("THE IMAGE: THE OVEN, LOAVES with all that is theirs, HOUR, the BOOK")
+    static void p27_undo_ofEveryRowWhichLoafAndWhetherSpoiled() {
+        BakedBefore x = with(0, HOLY, LOAF);
+        x.oven(0, 9999);
+        x.book(1, true);
+        x.book(0, false);
+        x.book(-2, false);
+        due("as told", x.looked(), ABSENT);
+        x.image();
+        x.book(-1, true);
+        x.book(0, false);
+        x.book(1, true);
+        x.book(1, true);
+        x.undo();
+        due("count(2)", x.count(2), 3);
+        due("as told again", x.looked(), ABSENT);
+        x.image();
+        x.book(-1, true);
+        x.book(1, false);
+        x.undo();
+        due("as told once more", x.looked(), ABSENT);
+    }
+
     @Says("which KILN holds")
     static void p27_undo_theKilnThatHeldHoldsAndNoneIfNone() {
         BakedBefore x = loaves(1);
@@ -182,6 +227,31 @@ final class EdgesOfActs extends Bench {
             due("act(0, " + act + ", 5)", x.act(0, act, 5), 0);
             due("trace(0)", x.trace(0), NONE);
             due("count(4)", x.count(4), 0);
+        }
+    }
+
+    @Says("the body of its KIND, or, if that has none, of the next KIND above that has one")
+    static void p28_act_theBodyOfTheNextKindAboveThatHasOne() {
+        int[][] first = {{10, 11, 12}, {10, 20, 12}, {30, 11, 12}, {10, 11, 40},
+            {50, 51, 12}, {30, 11, 60}, {71, 70, 40}};
+        for (int kind = 0; kind <= 6; kind++) {
+            for (int act = 0; act < 3; act++) {
+                BakedBefore x = with(0, kind);
+                x.act(0, act, 1);
+                due("KIND " + kind + ", act " + act, x.trace(0), first[kind][act]);
+            }
+        }
+    }
+
+    @Says("super.rises(..): so from the KIND above the body's on")
+    static void p28_act_fromTheKindAboveTheBodysNotTheLoafs() {
+        BakedBefore x = with(2, POISONED, SHY);
+        due("60, 12, 11, 30, 10: ((4 - 0) * 3 + 0 - 2) * 2", x.act(0, 2, 4), 20);
+        // 70 asks 11 of LOAF, that 71 of its own KIND, and then 10 itself, without 71
+        due("70, 11, 71, 10, 10: (((4 + 1) ^ 2) - 2) + (2 + 1)", x.act(1, 1, 4), 8);
+        int[] want = {70, 11, 71, 10, 10};
+        for (int i = 0; i < want.length; i++) {
+            due("trace(" + i + ")", x.trace(i), want[i]);
         }
     }
 

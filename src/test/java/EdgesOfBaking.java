@@ -188,6 +188,14 @@ final class EdgesOfBaking extends Bench {
         due("not SPOILED", x.would(0, -1, 4), 0);
     }
 
+    @Says("NONE: loaf, other (-1: none), what")
+    static void p11_would_otherZeroIsALoafNotNone() {
+        BakedBefore x = strongAndMild();
+        due("behind 0", x.would(1, 0, 0), 20);
+        due("behind 0, SPOILED", x.would(1, 0, 4), 1);
+        due("behind none", x.would(1, -1, 0), 0);
+    }
+
     // ---- order
 
     @Says("k -1 how many are SPOILED, else the k-th LOAF (-5: there are fewer). NONE: k (-1 .. 5)")
@@ -274,6 +282,15 @@ final class EdgesOfBaking extends Bench {
         gives(x, 0, 40);
         due("0 behind both", x.order(7, 2), 0);
         due("of 1, 2 and 2, 1 the first", x.order(7, 0), 1);
+    }
+
+    @Says({"ORDER of a set of LOAVES (5 at most", "how many are"})
+    static void p12_order_allFiveSpoiled() {
+        for (int k = -1; k < 5; k++) {
+            BakedBefore x = loaves(6);
+            hold(x, 9999);
+            due("k " + k, x.order(62, k), k < 0 ? 5 : k + 1);
+        }
     }
 
     // ---- colds

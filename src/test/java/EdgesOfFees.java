@@ -380,6 +380,18 @@ final class EdgesOfFees extends Bench {
         due("of the first, below", x.odds(0, 1), 5);
     }
 
+    @Says("if some one of the others, each alike likely, is BAKED just ahead of it")
+    static void p21_odds_theFirstAndTheLastAreOthersToo() {
+        BakedBefore x = loaves(4);
+        gives(x, 0, 40);
+        due("by the first, above", x.odds(1, 0), 1);
+        due("by the first, below", x.odds(1, 1), 3);
+        gives(x, 0, 0);
+        gives(x, 3, 40);
+        due("by the last, above", x.odds(1, 0), 1);
+        due("by the last, below", x.odds(1, 1), 3);
+    }
+
     // ---- mean
 
     @Says("MEAN; part likewise. NO: also without LOAVES.")

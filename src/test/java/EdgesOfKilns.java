@@ -141,6 +141,11 @@ final class EdgesOfKilns extends Bench {
         fault("fed 1 t<1", "  ^");
         fault("fees 1 t<1", "   ^");
         fault("takes 1 t<1", "    ^");
+        fault("t 1 t<1", " ^");
+        fault("tak 1 t<1", "   ^");
+        fault("more1 t<1", "    ^");
+        fault("col 1", "   ^");
+        fault("fe 1 t<1", "  ^");
         early("t");
         early("mor");
         early("col");
@@ -397,6 +402,28 @@ final class EdgesOfKilns extends Bench {
         due("count(1)", x.count(1), 1);
     }
 
+    @Says("-10 less the FAULT (the one that held holds)")
+    static void p07_kiln_nothingOfAFaultStaysInTheNext() {
+        BakedBefore x = loaves(1);
+        hold(x, 100);
+        kiln(x, "fee 9 l=0;take 7 t<9|t=9;more 8 t<9;fee 5 l=0;cold 3;take 1 t<9&");
+        due("the next", kiln(x, "fee 3 l=0"), 0);
+        due("FEE", x.of(0, 2), 4);
+        due("PART", x.of(0, 30), 50);
+        due("MORE", x.of(0, 40), 0);
+        due("cold", x.told(5), 50);
+    }
+
+    @Says("THE TEXT, which is empty then, is a KILN")
+    static void p07_kiln_behindFourFullTextsWithAFault() {
+        BakedBefore x = loaves(1);
+        for (int i = 0; i < 4; i++) {
+            due("FAULT " + i, kiln(x, textOf(97) + "|l<"), -110);
+        }
+        kiln(x, "fee 9 l=1|l=2|l=3|l=4|l=0");
+        due("all of its tests count", x.of(0, 2), 10);
+    }
+
     @Says("The newest KILN holds (6 at most)")
     static void p07_kiln_theNewestHoldsAlone() {
         BakedBefore x = loaves(1);
@@ -452,6 +479,14 @@ final class EdgesOfKilns extends Bench {
         tells("fee 9 l=0;fee 99 l<1;fee 1 l>0", 0, 2, 109);
     }
 
+    @Says({"CLAUSES, 1 to 10", "FEE of a LOAF: 1, and the n of all fee whose E holds, together"})
+    static void p07_fee_allOfTenClauses() {
+        tells("fee 1 l=0;fee 2 l=0;fee 3 l=0;fee 4 l=0;fee 5 l=0;fee 6 l=0;fee 7 l=0;fee 8 l=0;fee 9 l=0;fee 9 l=0",
+            0, 2, 55);
+        tells("fee 1 l=0;fee 2 l=0;fee 3 l=0;fee 4 l=0;fee 5 l=0;fee 6 l=0;fee 7 l=0;fee 8 l=0;fee 9 l=0;fee 9 l=1",
+            0, 2, 46);
+    }
+
     @Says("cold (50 without): the last one's n")
     static void p07_cold_fiftyWithoutAndTheLastOfSeveral() {
         BakedBefore x = new BakedBefore();
@@ -466,6 +501,9 @@ final class EdgesOfKilns extends Bench {
     @Says("a letter, < or = or >, a number")
     static void p07_test_lessEqualGreaterAtTheNumber() {
         tells("fee 1 v<3;fee 2 v<4;fee 4 v<5", 0, 2, 5);
+        tells("fee 9 l<0", 0, 2, 1);
+        tells("fee 9 !l<0", 0, 2, 10);
+        tells("fee 9 l>99", 0, 2, 1);
         tells("fee 1 v=3;fee 2 v=4;fee 4 v=5", 0, 2, 3);
         tells("fee 1 v>3;fee 2 v>4;fee 4 v>5", 0, 2, 2);
     }

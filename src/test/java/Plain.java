@@ -1,6 +1,8 @@
 import java.util.ArrayList;
+import java.util.HashMap;
 import java.util.HashSet;
 import java.util.List;
+import java.util.Map;
 import java.util.Set;
 
 /**
@@ -12,6 +14,7 @@ final class Plain {
     private static final int NOTHING = -11, CAST = -12, PLACE = -13, SIZE = -14;
     private static final long NO = Long.MIN_VALUE;
     private static final int[] ABOVE = {-1, 0, 0, 0, 1, 2, 3};
+    private static final Map<String, String[][]> PARTS = new HashMap<>();
 
     private static final class Bread {
         int kind;
@@ -49,16 +52,25 @@ final class Plain {
             return w;
         }
 
-        String[] clauses() {
-            return kiln.isEmpty() ? new String[0] : kiln.split(";");
+        /** Each clause of the KILN that holds as its parts; split but once, as it is looked at so often. */
+        String[][] clauses() {
+            return PARTS.computeIfAbsent(kiln, World::split);
+        }
+
+        static String[][] split(String text) {
+            String[] clauses = text.isEmpty() ? new String[0] : text.split(";");
+            String[][] parts = new String[clauses.length][];
+            for (int i = 0; i < clauses.length; i++) {
+                parts[i] = clauses[i].split(" ");
+            }
+            return parts;
         }
 
         /** The n of all clauses of the word whose E holds; -1 without any clause of the word. */
         int together(String word, int l, int t, int o) {
             int sum = 0;
             boolean any = false;
-            for (String clause : clauses()) {
-                String[] parts = clause.split(" ");
+            for (String[] parts : clauses()) {
                 if (parts[0].equals(word)) {
                     any = true;
                     if (holds(parts[2], l, t, o)) {
@@ -113,9 +125,9 @@ final class Plain {
 
         int coldPart() {
             int n = 50;
-            for (String clause : clauses()) {
-                if (clause.startsWith("cold ")) {
-                    n = Integer.parseInt(clause.substring(5));
+            for (String[] parts : clauses()) {
+                if (parts[0].equals("cold")) {
+                    n = Integer.parseInt(parts[1]);
                 }
             }
             return n;

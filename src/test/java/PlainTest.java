@@ -2,7 +2,7 @@ import java.util.Random;
 
 /** Runs of calls by lot (of fixed seeds) on the class and on the plain telling, answer by answer. */
 public final class PlainTest {
-    private static final int RUNS = 1500, CALLS = 512;
+    private static final int RUNS = 1000, CALLS = 512;
     private static final Check check = new Check();
 
     private final Random lot;
