@@ -716,24 +716,18 @@ public final class BakedBefore {
             return true;
         }
 
-        /** F. */
+        /** F. A ( or ! within too many others comes to readTest, which takes neither. */
         private boolean readPart(int depth) {
-            int sign = here();
-            if (sign != '!' && sign != '(') {
-                return readTest();
+            int inner = depth;
+            while (inner < DEEPEST && skip('!')) {
+                inner++;
             }
-            if (depth >= DEEPEST) {
-                return false;
+            boolean bracket = inner < DEEPEST && skip('(');
+            boolean well = bracket ? readEither(inner + 1) && skip(')') : readTest();
+            for (int i = depth; well && i < inner; i++) {
+                kiln.append(Kiln.NOT);
             }
-            at++;
-            if (sign == '(') {
-                return readEither(depth + 1) && skip(')');
-            }
-            if (!readPart(depth + 1)) {
-                return false;
-            }
-            kiln.append(Kiln.NOT);
-            return true;
+            return well;
         }
 
         private boolean readTest() {
@@ -1175,23 +1169,25 @@ public final class BakedBefore {
             length = Integer.bitCount(set);
             fewest = MOST + 1;
             ovens[0].become(now.oven);
-            goOnOrder(set, 0, 0);
+            goOnOrder(this, set, 0, 0);
         }
 
-        private void goOnOrder(int left, int depth, int spoiled) {
+        private static void goOnOrder(Search search, int left, int depth, int spoiled) {
             if (left == 0) {
-                keep(spoiled);
+                search.keep(spoiled);
                 return;
             }
             if (depth >= MOST) {
                 return;
             }
-            for (int i = 0; i < now.many && spoiled < fewest; i++) {
+            Oven here = search.ovens[depth];
+            Oven next = search.ovens[depth + 1];
+            for (int i = 0; i < search.now.many && spoiled < search.fewest; i++) {
                 if ((left >> i & 1) == 1) {
-                    ovens[depth + 1].become(ovens[depth]);
-                    row[depth] = i;
-                    boolean bad = baker.bakeIn(ovens[depth + 1], now.loaves[i]);
-                    goOnOrder(left & ~(1 << i), depth + 1, bad ? spoiled + 1 : spoiled);
+                    next.become(here);
+                    search.row[depth] = i;
+                    boolean bad = search.baker.bakeIn(next, search.now.loaves[i]);
+                    goOnOrder(search, left & ~(1 << i), depth + 1, bad ? spoiled + 1 : spoiled);
                 }
             }
         }
@@ -1202,27 +1198,29 @@ public final class BakedBefore {
             length = Integer.bitCount(set);
             fewest = most + 1;
             ovens[0].become(now.oven);
-            goOnColds(set, 0, 0);
+            goOnColds(this, set, 0, 0);
             return fewest <= most;
         }
 
-        private void goOnColds(int left, int depth, int sum) {
+        private static void goOnColds(Search search, int left, int depth, int sum) {
             if (left == 0) {
-                keep(sum);
+                search.keep(sum);
                 return;
             }
             if (depth >= MOST) {
                 return;
             }
+            Oven here = search.ovens[depth];
+            Oven next = search.ovens[depth + 1];
             int loaf = lowestOf(left);
-            for (int colds = 0; colds <= MOST_COLDS && sum + colds < fewest; colds++) {
+            for (int colds = 0; colds <= MOST_COLDS && sum + colds < search.fewest; colds++) {
                 if (colds > 0) {
-                    baker.chill(ovens[depth]);
+                    search.baker.chill(here);
                 }
-                ovens[depth + 1].become(ovens[depth]);
-                row[depth] = colds;
-                if (!baker.bakeIn(ovens[depth + 1], now.loaves[loaf])) {
-                    goOnColds(left & ~(1 << loaf), depth + 1, sum + colds);
+                next.become(here);
+                search.row[depth] = colds;
+                if (!search.baker.bakeIn(next, search.now.loaves[loaf])) {
+                    goOnColds(search, left & ~(1 << loaf), depth + 1, sum + colds);
                 }
             }
         }
@@ -1265,16 +1263,16 @@ public final class BakedBefore {
 
         int play(Loaf loaf, int act, int x) {
             ran = 0;
-            return run(loaf, act, loaf.kind, x, 0);
+            return run(this, loaf, act, loaf.kind, x, 0);
         }
 
         /** The body that a KIND, or the next above it that has one, has for an act. */
-        private int run(Loaf loaf, int act, int from, int x, int depth) {
+        private static int run(Acts acts, Loaf loaf, int act, int from, int x, int depth) {
             if (depth > DEEPEST) {
                 return 0;
             }
             int body = bodyOf(act, from);
-            note(body);
+            acts.note(body);
             int own = loaf.kind;
             int above = Math.max(LOAF, ABOVE[body / 10 - 1]);
             int next = depth + 1;
@@ -1282,25 +1280,25 @@ public final class BakedBefore {
                 case 10:
                     return x + loaf.number;
                 case 11:
-                    return run(loaf, RISES, own, x, next) - loaf.v;
+                    return run(acts, loaf, RISES, own, x, next) - loaf.v;
                 case 12:
-                    return run(loaf, BAKES, own, x, next) * 2;
+                    return run(acts, loaf, BAKES, own, x, next) * 2;
                 case 20:
-                    return run(loaf, BAKES, above, x, next) ^ 6;
+                    return run(acts, loaf, BAKES, above, x, next) ^ 6;
                 case 30:
-                    return run(loaf, RISES, above, x * 3, next);
+                    return run(acts, loaf, RISES, above, x * 3, next);
                 case 40:
-                    return run(loaf, TELLS, above, x, next) + run(loaf, BAKES, own, 1, next);
+                    return run(acts, loaf, TELLS, above, x, next) + run(acts, loaf, BAKES, own, 1, next);
                 case 50:
-                    return -run(loaf, RISES, above, x, next);
+                    return -run(acts, loaf, RISES, above, x, next);
                 case 51:
-                    return run(loaf, BAKES, above, x + 1, next);
+                    return run(acts, loaf, BAKES, above, x + 1, next);
                 case 60:
-                    return run(loaf, TELLS, above, x - loaf.number, next);
+                    return run(acts, loaf, TELLS, above, x - loaf.number, next);
                 case 70:
-                    return run(loaf, BAKES, above, x, next) + run(loaf, RISES, above, 2, next);
+                    return run(acts, loaf, BAKES, above, x, next) + run(acts, loaf, RISES, above, 2, next);
                 case 71:
-                    return run(loaf, RISES, above, x, next) ^ loaf.v;
+                    return run(acts, loaf, RISES, above, x, next) ^ loaf.v;
                 default:
                     return 0;
             }

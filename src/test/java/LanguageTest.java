@@ -47,6 +47,10 @@ public final class LanguageTest {
             check.holds(name + " is of some sixty lines at most: " + lines, lines <= 60);
             int parameters = found.group(3).isEmpty() ? 0 : found.group(3).split(",").length;
             check.holds(name + " takes seven parameters at most", parameters <= 7);
+            String body = text.substring(found.end(), end + 1);
+            boolean callsItself = Pattern.compile("(?<![.\\w])" + name + "\\(").matcher(body).find();
+            check.holds(name + " calls itself only if it is private and static",
+                !callsItself || found.group().contains("private static "));
         }
         check.holds("methods were found: " + methods, methods > 80);
     }
