@@ -399,6 +399,17 @@ final class EdgesOfBaking extends Bench {
         due("two ahead of the second", x.colds(3, 1), 2);
     }
 
+    @Says("that of the fewest, together")
+    static void p13_colds_oneFewerByALaterRow() {
+        // only at HOUR 0 the first LEAVES 40: without a COLD HOUR ahead of it two are due behind it
+        BakedBefore x = loaves(2);
+        kiln(x, "take 50 l=1;more 40 t=0&l=0&h=0;cold 30");
+        x.oven(0, 30);
+        due("how many", x.colds(3, -1), 1);
+        due("one ahead of the first", x.colds(3, 0), 1);
+        due("none ahead of the second", x.colds(3, 1), 0);
+    }
+
     @Says("of several the first as a row")
     static void p13_colds_ofSeveralTheFirstAsARow() {
         // 40 is too much for either: one COLD HOUR ahead of the HOLY one or of the other

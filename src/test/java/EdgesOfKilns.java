@@ -579,4 +579,22 @@ final class EdgesOfKilns extends Bench {
         tells("take 9 !!!!l=0", 0, 30, 9);
         tells("take 9 !!!l=0", 0, 30, 0);
     }
+
+    @Says("F: !F, (E), or a TEST")
+    static void p07_test_bracketsAndNotsWithinOneAnother() {
+        String[] holding = {"l=0", "l<1&k=0", "k=5|l<1"};
+        for (String e : holding) {
+            String[] same = {"(" + e + ")", "((" + e + "))", "(((" + e + ")))", "!(!(" + e + "))", "!!(" + e + ")",
+                "(!!(" + e + "))"};
+            String[] other = {"!(" + e + ")", "(!(" + e + "))", "!((" + e + "))", "((!(" + e + ")))", "!!!(" + e + ")"};
+            for (String so : same) {
+                tells("take 9 " + so, 0, 30, 9);
+                tells("take 9 l=1|" + so, 0, 30, 9);
+            }
+            for (String not : other) {
+                tells("take 9 " + not, 0, 30, 0);
+                tells("take 9 l=0&" + not, 0, 30, 0);
+            }
+        }
+    }
 }
